@@ -59,7 +59,7 @@ public final class Viewhouse {
         if (from < 0 || from > to || to > base.count()) {
             throw new IllegalArgumentException();
         }
-        Part part = new Part(base.part, base.first() + from, to - from, base.changesBelow());
+        Part part = new Part(base.part, base.first() + from, to - from);
         slots[slot] = new Pane(PART, true, base.store, part);
         return to - from;
     }
@@ -608,7 +608,9 @@ public final class Viewhouse {
 
     /** Returns null where a slot holds nothing. */
     private Pane held(int slot) {
-        needSlots(slot, slot);
+        if (slot < 0 || slot >= SLOTS) {
+            throw new IndexOutOfBoundsException();
+        }
         return slots[slot];
     }
 
@@ -722,6 +724,7 @@ public final class Viewhouse {
         letPartsGo(through, through.store);
     }
 
+    /** The new count of changes tells the parts that stay from all others. */
     private void letPartsGo(Pane through, Store store) {
         store.changes++;
         for (Part part = through.part; part != null; part = part.outer) {
@@ -743,7 +746,7 @@ public final class Viewhouse {
         final int[] marks;
         final boolean isRising;
         int count;
-        /** How often this was sorted or changed its length: parts that know of fewer times are gone. */
+        /** How often this was sorted or changed its length. */
         int changes;
 
         Store(boolean isRising) {
@@ -885,13 +888,13 @@ public final class Viewhouse {
         final Part outer;
         final int first;
         int count;
+        /** The store's count of changes as the last one was done through this or a part of this. */
         int changes;
 
-        Part(Part outer, int first, int count, int changes) {
+        Part(Part outer, int first, int count) {
             this.outer = outer;
             this.first = first;
             this.count = count;
-            this.changes = changes;
         }
     }
 
@@ -947,10 +950,6 @@ public final class Viewhouse {
 
         int first() {
             return part == null ? 0 : part.first;
-        }
-
-        int changesBelow() {
-            return store == null ? 0 : store.changes;
         }
 
         int numberOf(int place) {

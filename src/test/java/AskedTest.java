@@ -72,6 +72,14 @@ public final class AskedTest {
         house.swap(1, 0, 1);
         DUE.is("12: in another order", false, () -> house.isSame(4, 1));
         house.enter(3, 3, 6, 2);
+        house.enter(3, 9, 4, 2);
+        house.enter(2, 9, 4, 1);
+        house.strike(2, 3);
+        house.strike(3, 3);
+        DUE.is("12: another thing, one number", false, () -> house.isSame(2, 3));
+        house.wipe(3);
+        house.enter(2, 3, 6, 2);
+        house.enter(3, 3, 6, 2);
         DUE.is("12: a map with less", false, () -> house.isSame(2, 3));
         DUE.is("12: a map with more", false, () -> house.isSame(3, 2));
         house.enter(3, 9, 4, 1);
@@ -86,7 +94,7 @@ public final class AskedTest {
         house.enter(3, 8, 4, 1);
         DUE.is("12: another number", false, () -> house.isSame(2, 3));
         DUE.is("12: other keys", false, () -> house.isSame(8, 9));
-        // 0 and -31 at the second place make up for 1 at the first one: hashes alone do not tell.
+        // One more at the first place makes up for 31 less at the second one: hashes alone do not tell.
         Viewhouse alike = Houses.listed(0, 1, 1, 0);
         alike.put(1, 0, 0, 2);
         alike.put(1, 1, 0, 0);

@@ -67,6 +67,19 @@ final class Due {
         for (int slot : new int[] {2, 3, 9, 10, 11}) {
             missing(promise + ": slot " + slot, kinds, () -> call.made(kinds, slot));
         }
+        refusesEmptySlots(promise, call);
+    }
+
+    /** A call on maps is to be refused where neither a map nor keys are. */
+    void refusesNumberless(int promise, SlotCall call) {
+        Viewhouse kinds = Houses.allKinds();
+        for (int slot : new int[] {0, 1, 4, 5, 6, 7, 8, 10}) {
+            missing(promise + ": slot " + slot, kinds, () -> call.made(kinds, slot));
+        }
+        refusesEmptySlots(promise, call);
+    }
+
+    private void refusesEmptySlots(int promise, SlotCall call) {
         Viewhouse fresh = new Viewhouse();
         missing(promise + ": nothing", fresh, () -> call.made(fresh, 4));
         slotless(promise + ": -1", fresh, () -> call.made(fresh, -1));

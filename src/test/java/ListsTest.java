@@ -228,6 +228,9 @@ public final class ListsTest {
         house.part(5, 0, 1, 4);
         DUE.is("23: kept of a part", 2, () -> house.keep(5, 4, true));
         DUE.is("23: the list then", "1/1 1/1 1/2 ", () -> Houses.things(house, 0));
+        house.put(0, 3, 1, 1);
+        house.part(5, 0, 0, 1);
+        DUE.is("23: not behind a part", 1, () -> house.keep(5, 4, false));
         DUE.is("23: taken away", 2, () -> house.keep(0, 4, false));
         DUE.is("23: the list then", "1/2 ", () -> Houses.things(house, 0));
         DUE.is("23: kept, all", 0, () -> house.keep(0, 0, true));
@@ -322,6 +325,10 @@ public final class ListsTest {
         DUE.is("26: a part", 2, () -> house.raise(4, 9));
         DUE.is("26: the list then", "1/1 11/2 999/3 ", () -> Houses.things(house, 0));
         DUE.is("26: no part goes", 'p', () -> house.kind(4));
+        house.part(5, 0, 0, 2);
+        DUE.is("26: ahead of 999", 2, () -> house.raise(5, 1));
+        DUE.is("26: nothing behind the part", "2/1 12/2 999/3 ", () -> Houses.things(house, 0));
+        house.raise(5, -1);
         DUE.illegal("26: above 999, the last one", house, () -> house.raise(0, 1));
         DUE.is("26: by 0", 3, () -> house.raise(0, 0));
         DUE.is("26: by less", 3, () -> house.raise(0, -9));

@@ -50,6 +50,11 @@ public final class MovedTest {
         DUE.is("28: copies", 100, () -> house.search(4, 2));
         house.put(0, 4, 4, 4);
         DUE.unready("28: the last key is less", house, () -> house.search(0, -2));
+        house.put(0, 0, -1, 4);
+        house.take(0, 5);
+        DUE.unready("28: the second key is less", house, () -> house.search(0, -2));
+        house.take(0, 0);
+        house.put(0, 4, 4, 4);
         house.part(5, 0, 0, 4);
         DUE.is("28: a part that rises", 100, () -> house.search(5, 5));
         DUE.refusesOthers(28, (house1, slot) -> house1.search(slot, 1));
@@ -76,6 +81,9 @@ public final class MovedTest {
         house.part(4, 0, 1, 4);
         DUE.is("30: in a part", 3, () -> house.swap(4, 0, 2));
         DUE.is("30: then", "1/1 4/4 3/3 2/2 ", () -> Houses.things(house, 0));
+        DUE.is("30: in a part, back", 3, () -> house.swap(4, 1, 0));
+        DUE.is("30: then", "1/1 3/3 4/4 2/2 ", () -> Houses.things(house, 0));
+        house.swap(4, 0, 1);
         DUE.is("30: the same place", 4, () -> house.swap(0, 1, 1));
         DUE.is("30: then", "1 4 3 2 ", () -> Houses.keys(house, 0));
         DUE.is("30: the part stays", 'p', () -> house.kind(4));
@@ -143,6 +151,11 @@ public final class MovedTest {
         DUE.is("33: one in none", -1, () -> house.rowIn(6, 5, false));
         house.part(8, 0, 4, 6);
         DUE.is("33: another mark", 4, () -> house.rowIn(0, 8, false));
+        house.part(10, 0, 0, 5);
+        DUE.is("33: beyond a part's end", -1, () -> house.rowIn(10, 8, true));
+        Viewhouse zeros = Houses.listed(1, 1, 0, 0);
+        zeros.copies(4, 2, 0, 0);
+        DUE.is("33: beyond the list's end", -1, () -> zeros.rowIn(0, 4, true));
         house.values(9, 2);
         DUE.missing("33: in values", house, () -> house.rowIn(9, 0, false));
         DUE.missing("33: values", house, () -> house.rowIn(0, 9, false));
@@ -182,6 +195,8 @@ public final class MovedTest {
         DUE.is("35: the last one is there", false, () -> house.areApart(0, 5));
         DUE.is("35: the other way round", false, () -> house.areApart(5, 0));
         DUE.is("35: values and a part", true, () -> house.areApart(5, 4));
+        house.part(9, 0, 1, 2);
+        DUE.is("35: what is behind a part", true, () -> house.areApart(9, 5));
         DUE.is("35: none", true, () -> house.areApart(0, 6));
         DUE.is("35: none and none", true, () -> house.areApart(6, 6));
         DUE.is("35: itself", false, () -> house.areApart(5, 5));
@@ -200,6 +215,8 @@ public final class MovedTest {
         DUE.is("36: the greatest", 7, () -> house.end(0, true));
         house.part(4, 0, 2, 4);
         DUE.is("36: of a part", 2, () -> house.end(4, true));
+        house.part(8, 0, 0, 2);
+        DUE.is("36: not of what is behind a part", -3, () -> house.end(8, false));
         house.enter(3, 5, 3, 3);
         house.enter(3, 4, -1, 3);
         house.values(5, 3);
