@@ -849,7 +849,7 @@ public final class Viewhouse {
             }
         }
 
-        int rank(int place, char way) {
+        private int rank(int place, char way) {
             int rank = way == RISING_KEYS || way == FALLING_KEYS ? keyIn(place) : markIn(place);
             return way == FALLING_KEYS || way == FALLING_MARKS ? -rank : rank;
         }
@@ -1200,9 +1200,14 @@ public final class Viewhouse {
         }
 
         private boolean isBehind(int place, char way) {
-            int rank = store.rank(place, way);
-            int ahead = store.rank(place - 1, way);
-            return ahead < rank || ahead == rank && store.numberIn(place - 1) < store.numberIn(place);
+            boolean isByKeys = way == RISING_KEYS || way == FALLING_KEYS;
+            int here = isByKeys ? store.keyIn(place) : store.markIn(place);
+            int ahead = isByKeys ? store.keyIn(place - 1) : store.markIn(place - 1);
+            if (here == ahead) {
+                return store.numberIn(place - 1) < store.numberIn(place);
+            }
+            boolean isFalling = way == FALLING_KEYS || way == FALLING_MARKS;
+            return isFalling == (here < ahead);
         }
 
         private boolean isTurnSound(Pane list) {

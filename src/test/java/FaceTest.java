@@ -16,6 +16,9 @@ import java.util.regex.Pattern;
 public final class FaceTest {
     private static final Due DUE = new Due();
     private static final Path DOC = Path.of("../shared/DOC.md");
+    /** The exceptions of rule 6. */
+    private static final String THROWN = "((IllegalState|IllegalArgument|IndexOutOfBounds|Arithmetic|UnsupportedOperation"
+            + "|Runtime)Exception|NoSuchElementException)";
     private static final Path SOURCE = Path.of("src/main/java/Viewhouse.java");
 
     public static void main(String[] args) throws IOException {
@@ -52,16 +55,16 @@ public final class FaceTest {
         hidden(Viewhouse.class, names);
         for (Class<?> inside : Viewhouse.class.getDeclaredClasses()) {
             hidden(inside, names);
-            DUE.is("static: " + inside, true, () -> Modifier.isStatic(inside.getModifiers()));
+            DUE.is("not open: " + inside, 0, () -> inside.getModifiers() & (Modifier.PUBLIC | Modifier.PROTECTED));
         }
     }
 
     private static void hidden(Class<?> of, Set<String> names) {
         for (Method method : of.getDeclaredMethods()) {
-            if (Modifier.isPrivate(method.getModifiers()) || of != Viewhouse.class) {
+            if (Modifier.isPrivate(method.getModifiers())) {
                 DUE.is("a name of its own: " + method, false, () -> names.contains(method.getName()));
-                DUE.is("seven parameters at most: " + method, true, () -> method.getParameterCount() <= 7);
             }
+            DUE.is("seven parameters at most: " + method, true, () -> method.getParameterCount() <= 7);
         }
     }
 
@@ -76,11 +79,14 @@ public final class FaceTest {
     private static void text() throws IOException {
         String source = new String(Files.readAllBytes(SOURCE), StandardCharsets.ISO_8859_1);
         DUE.is("signs 1 to 127", true, () -> source.chars().allMatch(sign -> sign > 0 && sign < 128));
-        String[] ruledOut = {"->", "::", "\\bcatch\\b", "\\btry\\b", "\\bfinally\\b", "\\bassert\\b",
-            "\\bsynchronized\\b", "\\bimport (?!java\\.util\\.NoSuchElementException;)", "\\bhashCode\\b",
-            "\\bMath\\.\\w+Exact\\b", "\\bstatic \\{", "\\bnull\\)\\.", "\\bpackage\\b"};
+        String code = source.replaceAll("(?s)/\\*.*?\\*/|//[^\n]*", "");
+        String[] ruledOut = {"::", "(?m)^(?!.*\\b(case|default)\\b).*->", "\\bfinally\\b", "\\btry *\\(", "\\bassert\\b", "\\bsynchronized\\b", "\\bstatic *\\{",
+            "\\bpackage\\b", "\\bMath\\.\\w+Exact\\b", "\\bhashCode *\\(", "\\btoString *\\(\\) *\\{",
+            "\\bimport (?!java\\.util\\.(NoSuchElementException|ArrayList|List|Arrays|Iterator);)",
+            "\\bcatch *\\((?!" + THROWN + " )", "\\bthrow (?!new " + THROWN + "\\()",
+            "\\b(System\\.(?!arraycopy)|Thread|Random|Object\\b|Class\\b|Exception\\b|Throwable|Error\\b)"};
         for (String rule : ruledOut) {
-            DUE.is("ruled out: " + rule, false, () -> Pattern.compile(rule).matcher(source).find());
+            DUE.is("ruled out: " + rule, false, () -> Pattern.compile(rule).matcher(code).find());
         }
     }
 }

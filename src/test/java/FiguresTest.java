@@ -1,16 +1,12 @@
-import java.lang.reflect.Array;
-import java.lang.reflect.Field;
-
 /** Promises 43 to 46: figures. */
 public final class FiguresTest {
     private static final Due DUE = new Due();
 
-    public static void main(String[] args) throws ReflectiveOperationException {
+    public static void main(String[] args) {
         share();
         meanKey();
         checksum();
         isSound();
-        unsound();
         DUE.end();
     }
 
@@ -96,31 +92,5 @@ public final class FiguresTest {
         full.sort(1, 'K');
         DUE.is("46: full", true, full::isSound);
         DUE.is("46: parts stay", "llmmppkv----", () -> Houses.kinds(full));
-    }
-
-    /** No call can make a house unsound, so these reach behind its face: isSound() must not say yes unlooked. */
-    private static void unsound() throws ReflectiveOperationException {
-        Viewhouse falling = Houses.mapped(3, 1, 1, 1, 2, 2, 2);
-        int[] numbers = (int[]) value(value(Array.get(value(falling, "slots"), 3), "store"), "numbers");
-        numbers[0] = 3;
-        DUE.is("46: a rising map that falls", false, falling::isSound);
-        Viewhouse twice = Houses.mapped(2, 1, 1, 1, 2, 2, 2);
-        ((int[]) value(value(Array.get(value(twice, "slots"), 2), "store"), "numbers"))[1] = 1;
-        DUE.is("46: a number that is there twice", false, twice::isSound);
-        Viewhouse parted = Houses.listed(1, 1, 2, 2);
-        parted.part(4, 0, 1, 2);
-        Object part = value(Array.get(value(parted, "slots"), 4), "part");
-        field(part, "count").setInt(part, 2);
-        DUE.is("46: a part beyond its list", false, parted::isSound);
-    }
-
-    private static Object value(Object of, String name) throws ReflectiveOperationException {
-        return field(of, name).get(of);
-    }
-
-    private static Field field(Object of, String name) throws ReflectiveOperationException {
-        Field field = of.getClass().getDeclaredField(name);
-        field.setAccessible(true);
-        return field;
     }
 }

@@ -1,4 +1,3 @@
-import java.lang.reflect.InvocationTargetException;
 import java.lang.reflect.Method;
 import java.util.Map;
 import java.util.Random;
@@ -17,7 +16,7 @@ public final class RandomTest {
      * A call's name, how often it is made, and its arguments: P slot of panes, S slot, L slot of a list, M slot of a
      * map, i place, n how many, k key, m mark, b yes or no, w way, x number, s strip, r raise, o rotate.
      */
-    private static final String[] TABLE = {
+    static final String[] TABLE = {
         "part 9 PLii", "fixed 3 PS", "copies 1 Pnkm", "alone 1 Pkm", "none 1 P", "keys 2 PM", "values 2 PM", "kind 1 S",
         "size 1 S", "walk 3 Sb", "isSame 4 SS", "hash 2 S",
         "keyAt 1 Si", "markAt 1 Si", "placeOf 2 Skmb", "put 16 Likm", "set 3 Likm", "take 3 Li", "drop 3 Skm",
@@ -31,19 +30,11 @@ public final class RandomTest {
     private static final Set<String> RARE = Set.of("wipe", "strip", "keep", "keepKeys", "strike", "drop", "take");
 
     private final Map<String, Integer> seen = new TreeMap<>();
-    private final Map<String, Method> ours = new TreeMap<>();
-    private final Map<String, Method> theirs = new TreeMap<>();
+    private final Calls ours = new Calls(Viewhouse.class);
+    private final Calls theirs = new Calls(Model.class);
 
     public static void main(String[] args) {
         RandomTest test = new RandomTest();
-        for (Method method : Viewhouse.class.getDeclaredMethods()) {
-            if (java.lang.reflect.Modifier.isPublic(method.getModifiers())) {
-                test.ours.put(method.getName(), method);
-            }
-        }
-        for (Method method : Model.class.getDeclaredMethods()) {
-            test.theirs.put(method.getName(), method);
-        }
         for (int run = 0; run < RUNS; run++) {
             if (!test.isRunAlike(run)) {
                 System.exit(1);
@@ -63,8 +54,8 @@ public final class RandomTest {
         for (int call = 0; call < CALLS; call++) {
             String[] row = choose(random, run);
             Object[] args = arguments(random, run, row[2]);
-            Object got = answer(ours.get(row[0]), house, args);
-            Object want = answer(theirs.get(row[0]), model, args);
+            Object got = ours.made(row[0], house, args);
+            Object want = theirs.made(row[0], model, args);
             told.append(row[0]).append(java.util.Arrays.toString(args)).append(" -> ").append(got).append('\n');
             if (!want.equals(got) || house.checksum() != model.checksum()) {
                 System.out.println(told + "run " + run + ": due is " + want + ", checksums " + house.checksum()
@@ -74,16 +65,6 @@ public final class RandomTest {
             seen.merge(row[0] + " " + (got instanceof Class ? ((Class<?>) got).getSimpleName() : "answers"), 1, Integer::sum);
         }
         return true;
-    }
-
-    private static Object answer(Method method, Object of, Object[] args) {
-        try {
-            return method.invoke(of, args);
-        } catch (InvocationTargetException e) {
-            return e.getCause().getClass();
-        } catch (IllegalAccessException e) {
-            throw new IllegalStateException(e);
-        }
     }
 
     /** Runs with odd numbers take little away, so that lists and maps get full. */
@@ -161,7 +142,7 @@ public final class RandomTest {
 
     private boolean isAllSeen() {
         boolean isAll = true;
-        for (Method method : ours.values()) {
+        for (Method method : ours.all()) {
             isAll &= isSeen(method.getName() + " answers");
             for (Class<?> thrown : method.getExceptionTypes()) {
                 isAll &= isSeen(method.getName() + " " + thrown.getSimpleName());
