@@ -50,6 +50,7 @@ final class Edges {
     private final Set<String> refused = new TreeSet<>();
     private int wrong;
     private Viewhouse house;
+    /** All calls that the house has had: what it answers after the 512th one is free. */
     private int calls;
 
     /** Numbers first to last with a thing each, 1/1, in a map. */
@@ -73,6 +74,9 @@ final class Edges {
                 return;
             }
         }
+        if (calls > MOST_CALLS) {
+            fail(name, "makes " + calls + " calls of one house");
+        }
         if (calls < MOST_CALLS && !house.isSound()) {
             fail(name, "isSound() then is false");
         }
@@ -93,14 +97,16 @@ final class Edges {
     private boolean isMade(String name, String call) {
         String[] sides = call.split(" = ?", 2);
         String due = sides.length == 2 ? sides[1].strip() : null;
-        long before = due != null && due.startsWith("!") ? house.checksum() : 0;
+        boolean isRefused = due != null && due.startsWith("!");
+        calls += isRefused ? 2 : 0;
+        long before = isRefused ? house.checksum() : 0;
         Object got = answer(sides[0].strip().split(" +"), due);
         String told = got instanceof Class ? ((Class<?>) got).getName() : String.valueOf(got);
         if (due == null && got instanceof Class) {
             fail(name, call + " throws " + told);
             return false;
         }
-        if (due != null && due.startsWith("!")) {
+        if (isRefused) {
             Class<?> exception = EXCEPTIONS.get(due.substring(1));
             if (name.split(":")[0].endsWith(" " + call.split(" ")[0])) {
                 refused.add(name.split(":")[0] + " " + exception.getSimpleName());
@@ -122,14 +128,19 @@ final class Edges {
         switch (words[0]) {
             case "new":
                 house = new Viewhouse();
+                calls = 0;
                 return "";
             case "kinds":
+                calls += 12;
                 return Houses.kinds(house);
             case "things":
+                calls += 1 + 3 * due.split(" ").length;
                 return Houses.things(house, Integer.parseInt(words[1])).strip();
             case "numbers":
+                calls += 1 + 2 * due.split(" ").length;
                 return Houses.numbers(house, Integer.parseInt(words[1])).strip();
             case "hashes":
+                calls++;
                 return hashes(Integer.parseInt(words[1]), due);
             default:
                 calls++;

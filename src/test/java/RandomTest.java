@@ -6,10 +6,11 @@ import java.util.TreeMap;
 
 /**
  * Makes the same calls, told by a fixed seed, of Viewhouse and of the model on the language's library, and holds
- * each answer and the checksum after it against each other. Fails too if some exception never came up.
+ * each answer against the other one, and in most runs the checksum after it. Fails too if some exception never came up.
  */
 public final class RandomTest {
-    private static final int RUNS = 1500;
+    private static final int RUNS = 2400;
+    /** All calls of one house, those of checksum() too: what later ones answer is free. */
     private static final int CALLS = 512;
 
     /**
@@ -51,15 +52,25 @@ public final class RandomTest {
         Viewhouse house = new Viewhouse();
         Model model = new Model();
         StringBuilder told = new StringBuilder();
-        for (int call = 0; call < CALLS; call++) {
+        // Few checksums leave room for more of the other calls.
+        int callsToChecksum = run % 5 == 0 ? 20 : 1;
+        int made = 0;
+        int used = 0;
+        while (used < CALLS) {
             String[] row = choose(random, run);
             Object[] args = arguments(random, run, row[2]);
             Object got = ours.made(row[0], house, args);
             Object want = theirs.made(row[0], model, args);
             told.append(row[0]).append(java.util.Arrays.toString(args)).append(" -> ").append(got).append('\n');
-            if (!want.equals(got) || house.checksum() != model.checksum()) {
-                System.out.println(told + "run " + run + ": due is " + want + ", checksums " + house.checksum()
-                        + ", due " + model.checksum());
+            used++;
+            made++;
+            boolean isAlike = want.equals(got);
+            if (isAlike && made % callsToChecksum == 0 && used < CALLS) {
+                used++;
+                isAlike = house.checksum() == model.checksum();
+            }
+            if (!isAlike) {
+                System.out.println(told + "run " + run + ": due is " + want + ", or another checksum");
                 return false;
             }
             seen.merge(row[0] + " " + (got instanceof Class ? ((Class<?>) got).getSimpleName() : "answers"), 1, Integer::sum);

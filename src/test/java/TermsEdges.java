@@ -146,7 +146,7 @@ final class TermsEdges {
         edges.test("what it is: 512 calls, maps", "enter 3 1 1 1; strike 3 1;".repeat(255) + "enter 3 7 1 1 = false; numberAt 3 0 = 7");
         edges.test("what it is: 512 calls, panes", "put 0 0 5 1; " + "part 4 0 0 1;".repeat(509) + "put 4 1 3 2 = 2; keyAt 4 1 = 3");
         edges.test("what it is: 512 calls, parts let go", "part 4 0 0 0; sort 0 k;".repeat(255) + "part 4 0 0 0 = 0; kind 4 = p");
-        edges.test("what it is: 512 calls, isSound", Edges.KINDS + "isSound;".repeat(499) + "isSound = true");
+        edges.test("what it is: 512 calls, isSound", Edges.KINDS + "isSound;".repeat(498) + "isSound = true");
     }
 
     private static void slots(Edges edges) {
